@@ -1,0 +1,172 @@
+import java.io.IOException;
+import java.lang.reflect.Constructor;
+import java.lang.reflect.Field;
+import java.lang.reflect.Method;
+import java.lang.reflect.Modifier;
+import java.nio.charset.StandardCharsets;
+import java.nio.file.Files;
+import java.nio.file.Path;
+import java.util.ArrayList;
+import java.util.List;
+import java.util.TreeSet;
+import java.util.regex.Matcher;
+import java.util.regex.Pattern;
+
+/** The class's face, as the document tells it, and the rules of LANGUAGE.md that can be read off. */
+public final class FaceTest {
+    private static final String[] FACE = {
+        "feed(int,long)", "trunk()", "policy()", "breach()", "change(int,int)", "sets(int,int)", "ahead(int,int)",
+        "fault(int,int)", "count(int)", "cut(int)", "line(int,int)", "value(int,int)", "clash(int,int)",
+        "pick(int,int)", "undo(int,int)", "needs(int,int)", "carry(int,int)", "apart(int,int,int)", "cost(int,int)",
+        "best(int,int,int,int)", "later(int,int)", "release(int,int)", "released(int,int)", "notes(int,int,int)",
+        "differs(int,int)", "freed(int,int)", "danger(int,int,int)", "every(int,int)", "soonest(int,int)",
+        "ready(int,boolean)", "orders(int,int)", "order(int,int,int,int)", "whence(int,int)", "strayed(int)",
+        "bestCut(int,int,int)", "up(int,int,int)", "spans(int,int,int,int)", "lets(int,int,int)", "keep(int)",
+        "goBack(int)"};
+
+    private FaceTest() {
+    }
+
+    public static void main(String[] args) throws IOException {
+        constants();
+        methods();
+        fields();
+        classesInside();
+        source(Path.of("src/main/java/CarriedBack.java"));
+        Runs.close();
+    }
+
+    private static void holds(String what, boolean is) {
+        Runs.due(what, is ? 1 : 0, 1);
+    }
+
+    private static void constants() {
+        Runs.about("constants");
+        Runs.due("NONE", CarriedBack.NONE, -1);
+        Runs.due("NOBODY", CarriedBack.NOBODY, -2);
+        Runs.due("UNKNOWN", CarriedBack.UNKNOWN, -1001);
+        Runs.due("OUTSIDE", CarriedBack.OUTSIDE, -1002);
+        Runs.due("NOT", CarriedBack.NOT, -1003);
+        Runs.due("FULL", CarriedBack.FULL, -1004);
+    }
+
+    private static String signature(Method m) {
+        StringBuilder b = new StringBuilder(m.getName()).append('(');
+        for (Class<?> type : m.getParameterTypes()) {
+            b.append(b.charAt(b.length() - 1) == '(' ? "" : ",").append(type.getName());
+        }
+        return b.append(')').toString();
+    }
+
+    private static void methods() {
+        Runs.about("the face");
+        int modifiers = CarriedBack.class.getModifiers();
+        holds("public and final", Modifier.isPublic(modifiers) && Modifier.isFinal(modifiers));
+        Constructor<?>[] made = CarriedBack.class.getDeclaredConstructors();
+        holds("one public constructor", made.length == 1 && Modifier.isPublic(made[0].getModifiers())
+            && made[0].getParameterCount() == 0);
+        TreeSet<String> due = new TreeSet<>(List.of(FACE));
+        TreeSet<String> names = new TreeSet<>();
+        TreeSet<String> found = new TreeSet<>();
+        for (String one : FACE) {
+            names.add(one.substring(0, one.indexOf('(')));
+        }
+        for (Method m : CarriedBack.class.getDeclaredMethods()) {
+            if (Modifier.isPublic(m.getModifiers())) {
+                found.add(signature(m));
+                holds(m.getName() + " answers an int, of an object",
+                    m.getReturnType() == int.class && !Modifier.isStatic(m.getModifiers()));
+            } else {
+                holds(m.getName() + " is private", Modifier.isPrivate(m.getModifiers()));
+                holds(m.getName() + " has a name of its own", !names.contains(m.getName()));
+            }
+            holds(m.getName() + " takes seven or fewer", m.getParameterCount() <= 7);
+        }
+        holds("the methods of the document, and no others: " + found, found.equals(due));
+    }
+
+    private static void fields() {
+        Runs.about("fields");
+        int visible = 0;
+        int own = 0;
+        for (Field f : CarriedBack.class.getDeclaredFields()) {
+            int m = f.getModifiers();
+            if (Modifier.isPublic(m)) {
+                visible++;
+                holds(f.getName() + " is a constant", Modifier.isStatic(m) && Modifier.isFinal(m));
+            } else {
+                holds(f.getName() + " is private", Modifier.isPrivate(m));
+            }
+            if (Modifier.isStatic(m)) {
+                holds(f.getName() + " is final", Modifier.isFinal(m));
+            } else {
+                own++;
+            }
+        }
+        Runs.due("public fields", visible, 6);
+        holds("some twenty fields: " + own, own <= 20);
+    }
+
+    private static void classesInside() {
+        Runs.about("classes inside");
+        Class<?>[] inside = CarriedBack.class.getDeclaredClasses();
+        holds("some twelve classes", inside.length <= 12);
+        for (Class<?> one : inside) {
+            int m = one.getModifiers();
+            holds(one.getName() + " is static and not public", Modifier.isStatic(m) && !Modifier.isPublic(m)
+                && !Modifier.isProtected(m));
+            int own = 0;
+            for (Field f : one.getDeclaredFields()) {
+                own += Modifier.isStatic(f.getModifiers()) ? 0 : 1;
+                holds(one.getName() + "." + f.getName() + ": no static state", !Modifier.isStatic(f.getModifiers())
+                    || Modifier.isFinal(f.getModifiers()));
+            }
+            holds(one.getName() + ": some twenty fields", own <= 20);
+            for (Method method : one.getDeclaredMethods()) {
+                holds(method.getName() + " takes seven or fewer", method.getParameterCount() <= 7);
+            }
+        }
+    }
+
+    private static void source(Path file) throws IOException {
+        Runs.about("source");
+        byte[] bytes = Files.readAllBytes(file);
+        boolean plain = true;
+        for (byte b : bytes) {
+            plain &= b == '\n' || b >= 32 && b < 127;
+        }
+        holds("signs 32 to 126 alone", plain);
+        String code = new String(bytes, StandardCharsets.ISO_8859_1).replaceAll("(?s)/\\*.*?\\*/", "")
+            .replaceAll("//[^\n]*", "");
+        String[] never = {"throw", "throws", "try", "catch", "finally", "synchronized", "assert", "import", "package",
+            "instanceof", "equals", "hashCode", "toString", "Object", "var", "Random", "currentTimeMillis", "nanoTime"};
+        for (String word : never) {
+            holds("no " + word, !Pattern.compile("\\b" + word + "\\b").matcher(code).find());
+        }
+        holds("no lambda, no method reference", !code.contains("->") && !code.contains("::"));
+        Matcher m = Pattern.compile("\\b(?:Integer|Long|Math|System|Arrays|String)\\.(\\w+)").matcher(code);
+        List<String> used = new ArrayList<>();
+        while (m.find()) {
+            used.add(m.group(1));
+        }
+        used.removeAll(List.of("bitCount", "min", "max", "arraycopy"));
+        holds("no library but what is known to be allowed: " + used, used.isEmpty());
+        longMethods(code);
+    }
+
+    /** A method's lines run from its head, four or eight blanks in, to the brace that closes it. */
+    private static void longMethods(String code) {
+        String[] lines = code.split("\n");
+        for (int k = 0; k < lines.length; k++) {
+            Matcher head = Pattern.compile("^((?: {4}){1,2})\\w[^;=]*\\) \\{$").matcher(lines[k]);
+            if (!head.matches()) {
+                continue;
+            }
+            int end = k;
+            while (end < lines.length && !lines[end].equals(head.group(1) + "}")) {
+                end++;
+            }
+            holds("sixty lines or fewer: " + lines[k].trim(), end - k < 60);
+        }
+    }
+}
