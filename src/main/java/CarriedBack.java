@@ -270,7 +270,7 @@ public final class CarriedBack {
         if (!book.hasLine(l) || !told.hasFaults(faults)) {
             return UNKNOWN;
         }
-        fixes.lookAt(l);
+        fixes.lookAt(l, faults);
         return fixes.costOf(faults);
     }
 
@@ -284,7 +284,7 @@ public final class CarriedBack {
         if (what < 0 || what > 2) {
             return OUTSIDE;
         }
-        fixes.lookAt(l);
+        fixes.lookAt(l, firstOnes(told.faults));
         fixes.findBest(n, r);
         if (what == 0) {
             return fixes.bestFaults;
@@ -633,7 +633,7 @@ public final class CarriedBack {
     /** The first train of a line, from a day on, that can bear the fix of a fault; NONE without one. */
     private int trainWithFix(int l, int f, int day) {
         int gap = book.trainEvery[l];
-        fixes.lookAt(l);
+        fixes.lookAt(l, 1 << f);
         if (gap < 1 || fixes.costOf(1 << f) == NONE) {
             return NONE;
         }
@@ -1429,21 +1429,26 @@ public final class CarriedBack {
             this.picker = picker;
         }
 
-        void lookAt(int l) {
+        /** Has to come ahead of what is asked of a line, and of no other faults than these. */
+        void lookAt(int l, int asked) {
             ofLine = l;
             fixable = 0;
-            int inLine = picker.book.inLine[l];
+            int inIt = trunk.faultsIn(picker.book.inLine[l]) & asked;
             for (int f = 0; f < trunk.faults; f++) {
-                fix[f] = NONE;
-                if (has(trunk.faultsIn(inLine), f) && trunk.removers[f] != NONE) {
-                    int c = trunk.removers[f];
-                    int first = picker.needsOf(l, c);
-                    fix[f] = first == NONE ? NONE : first | 1 << c;
-                }
+                fix[f] = has(inIt, f) ? fixOf(l, f) : NONE;
                 if (fix[f] != NONE) {
                     fixable |= 1 << f;
                 }
             }
+        }
+
+        private int fixOf(int l, int f) {
+            int c = trunk.removers[f];
+            if (c == NONE) {
+                return NONE;
+            }
+            int first = picker.needsOf(l, c);
+            return first == NONE ? NONE : first | 1 << c;
         }
 
         private int allFixes(int faultSet) {
