@@ -203,6 +203,10 @@ public final class LinesTest {
         Runs.due("needs(0, 3)", y.needs(0, 3), 5);
         y.pick(0, 0);
         Runs.due("needs(0, 3)", y.needs(0, 3), 4);
+        // one that sets two of the slots is needed once
+        CarriedBack w = Runs.of("change sets 0 1,1 1;change reads 0,1;");
+        w.cut(0);
+        Runs.due("needs(0, 1)", w.needs(0, 1), 1);
         // a value that is there already is not needed, whoever set it
         CarriedBack z = Runs.of("change sets 0 5;change sets 0 6;change sets 0 5;change sets 0 7,1 1;change reads 1;");
         z.cut(1);
@@ -220,6 +224,10 @@ public final class LinesTest {
         Runs.due("needs(0, 1): what sets it is in it", x.needs(0, 1), CarriedBack.NONE);
         Runs.due("needs(0, 2): so one further back", x.needs(0, 2), CarriedBack.NONE);
         Runs.due("needs(0, 4)", x.needs(0, 4), 0);
+        CarriedBack w = Runs.of("change sets 0 1;change sets 0 2;change reads 0;change sets 0 1;");
+        w.cut(2);
+        Runs.due("pick(0, 3)", w.pick(0, 3), 3);
+        Runs.due("needs(0, 2): what sets it is in it, and would go on again", w.needs(0, 2), CarriedBack.NONE);
         CarriedBack y = Runs.of("change reads 0;change sets 0 1;");
         y.cut(0);
         y.pick(0, 1);

@@ -146,6 +146,12 @@ public final class ReleasesTest {
         x.release(0, 20);
         x.release(0, 21);
         Runs.due("freed(0, 0): the first of those", x.freed(0, 0), 10);
+        CarriedBack y = Runs.of(FREE);
+        y.cut(1);
+        y.release(0, 0);
+        y.pick(0, 1);
+        y.release(0, 0);
+        Runs.due("freed(0, 0): the very first had it", y.freed(0, 0), 1);
         x.cut(0);
         Runs.due("freed(0, 2): no release", x.freed(0, 2), CarriedBack.NONE);
     }

@@ -16,6 +16,7 @@ public final class TrunkTest {
         tooMany();
         slotsAgain();
         whatATrunkChanges();
+        staleBytes();
         policies();
         policyBreaches();
         breachByte();
@@ -137,6 +138,11 @@ public final class TrunkTest {
         bad("cHange;", 1, 0);
         bad("changE;", 1, 0);
         bad("changes;", 1, 0);
+        bad("xhange;", 1, 0);
+        bad("chxnge;", 1, 0);
+        bad("changx;", 1, 0);
+        bad("change;eault 1 from 0;", 1, 7);
+        bad("change;fault 1 form 0;", 1, 15);
         bad("changesets 0 1;", 1, 0);
         bad("sets 0 1;", 1, 0);
         bad("freeze 1 2;", 1, 0);
@@ -253,6 +259,7 @@ public final class TrunkTest {
         bad("change reads 0,1,2,3,4,5,6,7,8,9,10,11,12,13,14,15,15;", 4, 51);
         bad("change reads 0,1,2,3,4,5,6,7,8,9,10,11,12,13,14,15,16;", 2, 51);
         bad("change sets 15 1 reads 15,15;", 4, 26);
+        bad("change sets 0 1,1 1,2 1,3 1,4 1,5 1,6 1,7 1,8 1,9 1,10 1,11 1,12 1,13 1,14 1,15 1,0 1;", 4, 82);
     }
 
     private static void whatATrunkChanges() {
@@ -291,9 +298,50 @@ public final class TrunkTest {
         Runs.due("release(0, 0)", x.release(0, 0), 0);
         Runs.due("lets(0, 0, 5): the policy stays", x.lets(0, 0, 5), 0);
         Runs.due("lets(0, 0, 6)", x.lets(0, 0, 6), 1);
+        staleOnes();
         Runs.due("an empty trunk", x.trunk(), 0);
         Runs.due("count(0)", x.count(0), 0);
         Runs.due("count(2)", x.count(2), 0);
+    }
+
+    /** What an earlier trunk's lines and releases held is nowhere counted. */
+    private static void staleOnes() {
+        CarriedBack x = Runs.of(ReleasesTest.FREE);
+        for (int l = 0; l < 4; l++) {
+            x.cut(1);
+            x.every(l, 7);
+            x.release(l, 3);
+        }
+        x.keep(0);
+        Runs.due("the same trunk", Runs.trunk(x, ReleasesTest.FREE), 4);
+        Runs.due("soonest(0, 1)", x.soonest(0, 1), CarriedBack.NOBODY);
+        Runs.due("danger(0, 0, 9)", x.danger(0, 0, 9), 0);
+        x.cut(0);
+        Runs.due("soonest(0, 1)", x.soonest(0, 1), CarriedBack.NOBODY);
+        Runs.due("spans(0, 0, -1, 0)", x.spans(0, 0, -1, 0), 0);
+        Runs.due("freed(0, 0)", x.freed(0, 0), CarriedBack.NONE);
+        Runs.due("release(0, 0)", x.release(0, 0), 0);
+        Runs.due("line(0, 4)", x.line(0, 4), 0);
+        Runs.due("danger(0, 0, 9)", x.danger(0, 0, 9), 0);
+    }
+
+    /** What an earlier text had behind the end of a later one is not read. */
+    private static void staleBytes() {
+        Runs.about("promises 3, 4, a shorter text behind a longer one");
+        CarriedBack x = new CarriedBack();
+        Runs.due("trunk()", Runs.trunk(x, "change;change risk 9;"), 2);
+        Runs.due("trunk() of 'chang'", Runs.trunk(x, "chang"), -11);
+        Runs.due("breach()", x.breach(), 0);
+        Runs.due("trunk() of 'change'", Runs.trunk(x, "change"), -11);
+        Runs.due("breach()", x.breach(), 6);
+        Runs.due("policy()", Runs.policy(x, "risk 55;"), 1);
+        Runs.due("policy() of 'risk 5'", Runs.policy(x, "risk 5"), -11);
+        Runs.due("breach()", x.breach(), 6);
+        Runs.due("trunk()", Runs.trunk(x, "change risk 55;"), -12);
+        Runs.due("trunk() of 'change risk 5'", Runs.trunk(x, "change risk 5"), -11);
+        Runs.due("breach()", x.breach(), 13);
+        Runs.due("trunk()", Runs.trunk(x, " ".repeat(20)), 0);
+        Runs.due("trunk() of 'change;   '", Runs.trunk(x, "change;   "), 1);
     }
 
     private static void policies() {
@@ -369,6 +417,7 @@ public final class TrunkTest {
         badPolicy("only 1,1;", 4, 7);
         badPolicy("only 0,1,2,3,0;", 4, 13);
         badPolicy("only 3, 003;", 4, 8);
+        badPolicy("only 3,2,1,0,4;", 2, 13);
     }
 
     private static void breachByte() {

@@ -112,6 +112,7 @@ public final class WaysTest {
         Runs.due("order(0, 7, max, 0)", x.order(0, 7, Integer.MAX_VALUE, 0), CarriedBack.NONE);
         Runs.due("order(0, 7, 0, 3)", x.order(0, 7, 0, 3), CarriedBack.NONE);
         Runs.due("order(0, 7, 0, max)", x.order(0, 7, 0, Integer.MAX_VALUE), CarriedBack.NONE);
+        Runs.due("order(0, 7, 0, -1)", x.order(0, 7, 0, -1), CarriedBack.NONE);
         Runs.due("order(0, 0, 0, 0)", x.order(0, 0, 0, 0), CarriedBack.NONE);
         Runs.due("order(0, 8, 0, 0)", x.order(0, 8, 0, 0), CarriedBack.NONE);
         Runs.due("order(0, 7, -1, 0)", x.order(0, 7, -1, 0), CarriedBack.OUTSIDE);
@@ -146,11 +147,13 @@ public final class WaysTest {
         for (int s = 0; s < 4; s++) {
             Runs.due("whence(0, " + s + ")", x.whence(0, s), want[s]);
         }
+        x.cut(1);
+        Runs.due("whence(1, 0)", x.whence(1, 0), 0);
         x.undo(0, 5);
         Runs.due("whence(0, 1)", x.whence(0, 1), 1);
         x.undo(0, 1);
         Runs.due("whence(0, 1)", x.whence(0, 1), CarriedBack.NONE);
-        Runs.due("whence(1, 0)", x.whence(1, 0), CarriedBack.UNKNOWN);
+        Runs.due("whence(2, 0)", x.whence(2, 0), CarriedBack.UNKNOWN);
         Runs.due("whence(-1, 0)", x.whence(-1, 0), CarriedBack.UNKNOWN);
         Runs.due("whence(0, 16)", x.whence(0, 16), CarriedBack.UNKNOWN);
         Runs.due("whence(0, -1)", x.whence(0, -1), CarriedBack.UNKNOWN);
@@ -408,6 +411,8 @@ public final class WaysTest {
         Runs.due("goBack(1)", x.goBack(1), 1);
         Runs.due("line(0, 1)", x.line(0, 1), 3);
         Runs.due("line(0, 0)", x.line(0, 0), 1);
+        Runs.due("keep(1)", x.keep(1), 1);
+        Runs.due("goBack(1): kept twice", x.goBack(1), 1);
         CarriedBack y = new CarriedBack();
         Runs.due("keep(0) of a new object", y.keep(0), 1);
         y.cut(0);
