@@ -690,7 +690,6 @@ public final class CarriedBack {
         private int start = 0;
         private int behind = 0;
         private int number = 0;
-        private int figures = 0;
         int breach = 0;
         int breachAt = NONE;
 
@@ -717,35 +716,22 @@ public final class CarriedBack {
                 p++;
             }
             start = p;
-            if (p >= length) {
-                kind = END;
-            } else if (isLetter(text.bytes[p])) {
-                kind = WORD;
-                while (p < length && isLetter(text.bytes[p])) {
+            kind = p < length ? kindOf(text.bytes[p]) : END;
+            if (kind == OTHER) {
+                p++;
+            } else if (kind != END) {
+                while (p < length && kindOf(text.bytes[p]) == kind) {
                     p++;
                 }
-            } else if (isFigure(text.bytes[p])) {
-                kind = NUMBER;
-                p = behindNumber(p);
-            } else {
-                kind = OTHER;
-                p++;
             }
             behind = p;
         }
 
-        /** Figures behind the third are only counted: such a number is a breach whatever it is. */
-        private int behindNumber(int from) {
-            int p = from;
-            number = 0;
-            while (p < text.length && isFigure(text.bytes[p])) {
-                if (p - from < 3) {
-                    number = 10 * number + text.bytes[p] - '0';
-                }
-                p++;
+        private static int kindOf(int b) {
+            if (b >= 'a' && b <= 'z') {
+                return WORD;
             }
-            figures = p - from;
-            return p;
+            return b >= '0' && b <= '9' ? NUMBER : OTHER;
         }
 
         boolean isWord(String word) {
@@ -788,27 +774,39 @@ public final class CarriedBack {
             return takeSign(sign) || refuse(CANNOT_STAND);
         }
 
+        /** A number within bounds; NONE if there is a breach. */
         int needNumber(int least, int most) {
-            return needNew(least, most, 0);
-        }
-
-        /** A number whose bit is not yet in a set; NONE if there is a breach. */
-        int needNew(int least, int most, int already) {
-            if (kind != NUMBER) {
-                refuse(CANNOT_STAND);
+            if (!fits(least, most)) {
                 return NONE;
             }
-            if (figures > mostFigures || number < least || number > most) {
-                refuse(BAD_NUMBER);
+            step();
+            return number;
+        }
+
+        /** As needNumber, of numbers whose bit is not yet in a set. */
+        int needNew(int least, int most, int already) {
+            if (!fits(least, most)) {
                 return NONE;
             }
             if (number < SLOTS && has(already, number)) {
                 refuse(AGAIN);
                 return NONE;
             }
-            int taken = number;
             step();
-            return taken;
+            return number;
+        }
+
+        /** Leaves the number in its field; figures behind the third matter to none that is allowed. */
+        private boolean fits(int least, int most) {
+            if (kind != NUMBER) {
+                return refuse(CANNOT_STAND);
+            }
+            number = 0;
+            for (int p = start; p < behind && p < start + 3; p++) {
+                number = 10 * number + text.bytes[p] - '0';
+            }
+            boolean within = behind - start <= mostFigures && number >= least && number <= most;
+            return within || refuse(BAD_NUMBER);
         }
 
         /** Always false, so that what meets a breach can answer with it. */
@@ -816,14 +814,6 @@ public final class CarriedBack {
             breach = which;
             breachAt = start;
             return false;
-        }
-
-        private static boolean isLetter(int b) {
-            return b >= 'a' && b <= 'z';
-        }
-
-        private static boolean isFigure(int b) {
-            return b >= '0' && b <= '9';
         }
     }
 
@@ -874,25 +864,26 @@ public final class CarriedBack {
             changes = 0;
             faults = 0;
             for (int clauses = 0; clauses < MOST_BYTES && !in.atEnd(); clauses++) {
-                if (!readClause(in)) {
+                boolean whole;
+                if (in.isWord("change")) {
+                    whole = readChange(in);
+                } else if (in.isWord("fault")) {
+                    whole = readFault(in);
+                } else {
+                    whole = in.refuse(CANNOT_STAND);
+                }
+                if (!whole) {
                     return false;
                 }
             }
             return true;
         }
 
-        private boolean readClause(Reader in) {
-            if (in.isWord("change")) {
-                return changes < MOST_CHANGES ? readChange(in) : in.refuse(TOO_MANY);
-            }
-            if (in.isWord("fault")) {
-                return faults < MOST_FAULTS ? readFault(in) : in.refuse(TOO_MANY);
-            }
-            return in.refuse(CANNOT_STAND);
-        }
-
         private boolean readChange(Reader in) {
             int c = changes;
+            if (c >= MOST_CHANGES) {
+                return in.refuse(TOO_MANY);
+            }
             in.step();
             clearChange(c);
             if (in.takeWord("sets") && !readSettings(in, c)) {
@@ -965,6 +956,9 @@ public final class CarriedBack {
 
         private boolean readFault(Reader in) {
             int f = faults;
+            if (f >= MOST_FAULTS) {
+                return in.refuse(TOO_MANY);
+            }
             in.step();
             int weight = in.needNumber(1, 99);
             if (weight == NONE || !in.needWord("from")) {
@@ -1321,8 +1315,11 @@ public final class CarriedBack {
         boolean allGoOn(int l, int set) {
             lay(l, trial);
             for (int c = 0; c < trunk.changes; c++) {
-                if (has(set, c) && !goesOn(c, trial)) {
-                    return false;
+                if (has(set, c)) {
+                    if (trunk.clashOf(c, trial, 0) != 0) {
+                        return false;
+                    }
+                    trunk.putOn(c, trial, 0);
                 }
             }
             return true;
@@ -1435,20 +1432,16 @@ public final class CarriedBack {
             fixable = 0;
             int inIt = trunk.faultsIn(picker.book.inLine[l]) & asked;
             for (int f = 0; f < trunk.faults; f++) {
-                fix[f] = has(inIt, f) ? fixOf(l, f) : NONE;
+                int c = trunk.removers[f];
+                fix[f] = NONE;
+                if (has(inIt, f) && c != NONE) {
+                    int first = picker.needsOf(l, c);
+                    fix[f] = first == NONE ? NONE : first | 1 << c;
+                }
                 if (fix[f] != NONE) {
                     fixable |= 1 << f;
                 }
             }
-        }
-
-        private int fixOf(int l, int f) {
-            int c = trunk.removers[f];
-            if (c == NONE) {
-                return NONE;
-            }
-            int first = picker.needsOf(l, c);
-            return first == NONE ? NONE : first | 1 << c;
         }
 
         private int allFixes(int faultSet) {
