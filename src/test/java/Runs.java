@@ -1,7 +1,18 @@
 import java.nio.charset.StandardCharsets;
+import java.util.List;
 
 /** What the tests share: feeding of texts, and calls whose answers are held against those that are due. */
 final class Runs {
+    /** A state to begin with: an object, made anew each time. */
+    interface State {
+        CarriedBack made();
+    }
+
+    /** One call. */
+    interface Call {
+        int on(CarriedBack x);
+    }
+
     private static int calls = 0;
     private static int wrong = 0;
     private static String about = "";
@@ -19,6 +30,27 @@ final class Runs {
             wrong++;
             System.out.println(about + ": " + call + " answered " + got + ", due is " + want);
         }
+    }
+
+    /** That all that can be seen of an object is as it is of another one. */
+    static void same(String what, CarriedBack got, CarriedBack want) {
+        same(what, Seen.of(got), Seen.of(want));
+    }
+
+    static void same(String what, List<String> got, List<String> want) {
+        calls++;
+        String difference = Seen.difference(got, want);
+        if (!difference.isEmpty()) {
+            wrong++;
+            System.out.println(about + ": " + what + ": " + difference);
+        }
+    }
+
+    /** A call in a state: what it answers, and that it leaves all as it was. */
+    static void leaves(State state, String call, Call asked, int want) {
+        CarriedBack x = state.made();
+        due(call, asked.on(x), want);
+        same(call + " leaves all as it was", x, state.made());
     }
 
     static void close() {
