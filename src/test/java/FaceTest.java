@@ -7,7 +7,10 @@ import java.nio.charset.StandardCharsets;
 import java.nio.file.Files;
 import java.nio.file.Path;
 import java.util.ArrayList;
+import java.util.HashMap;
 import java.util.List;
+import java.util.Map;
+import java.util.Set;
 import java.util.TreeSet;
 import java.util.regex.Matcher;
 import java.util.regex.Pattern;
@@ -124,6 +127,9 @@ public final class FaceTest {
             holds(one.getName() + ": some twenty fields", own <= 20);
             for (Method method : one.getDeclaredMethods()) {
                 holds(method.getName() + " takes seven or fewer", method.getParameterCount() <= 7);
+                for (String face : FACE) {
+                    holds(method.getName() + " is not " + face, !face.startsWith(method.getName() + "("));
+                }
             }
         }
     }
@@ -151,7 +157,46 @@ public final class FaceTest {
         }
         used.removeAll(List.of("bitCount", "min", "max", "arraycopy"));
         holds("no library but what is known to be allowed: " + used, used.isEmpty());
+        holds("no text is joined by +", !code.contains("\" +") && !code.contains("+ \""));
         longMethods(code);
+        longestChain(code);
+    }
+
+    /**
+     * Methods of one name are taken for one method, so that the chain told may be longer than the real one; one that
+     * calls its own name calls that of another class, as there is no recursion, and counts twice.
+     */
+    private static void longestChain(String code) {
+        Map<String, Set<String>> called = new HashMap<>();
+        String name = "";
+        for (String line : code.split("\n")) {
+            Matcher head = Pattern.compile("^(?: {4}){1,2}(?:\\w+ )*\\w+ (\\w+)\\([^()]*\\) \\{$").matcher(line);
+            if (head.matches()) {
+                name = head.group(1);
+                called.putIfAbsent(name, new TreeSet<>());
+            } else {
+                Matcher call = Pattern.compile("(?<!new )\\b(\\w+)\\(").matcher(line);
+                while (call.find() && !name.isEmpty()) {
+                    called.get(name).add(call.group(1));
+                }
+            }
+        }
+        holds("methods were found: " + called.size(), called.size() > 80);
+        for (String one : called.keySet()) {
+            holds("at most eight deep: " + one, depth(one, called, 0) <= 8);
+        }
+    }
+
+    private static int depth(String name, Map<String, Set<String>> called, int above) {
+        if (!called.containsKey(name) || above > 20) {
+            return above;
+        }
+        int here = above + (called.get(name).contains(name) ? 2 : 1);
+        int deepest = here;
+        for (String one : called.get(name)) {
+            deepest = Math.max(deepest, one.equals(name) ? here : depth(one, called, here));
+        }
+        return deepest;
     }
 
     /** A method's lines run from its head, four or eight blanks in, to the brace that closes it. */

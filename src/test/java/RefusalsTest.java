@@ -103,9 +103,20 @@ public final class RefusalsTest {
         return x;
     }
 
+    /** As busy, with two images that are unlike one another and unlike what is so. */
+    private static CarriedBack twoImages() {
+        CarriedBack x = busy();
+        x.keep(1);
+        x.pick(0, 2);
+        x.every(0, 8);
+        x.release(0, 30);
+        return x;
+    }
+
     private static final Runs.State BUSY = RefusalsTest::busy;
     private static final Runs.State MADE_FULL = RefusalsTest::full;
     private static final Runs.State LONG_TEXT = RefusalsTest::longText;
+    private static final Runs.State TWO_IMAGES = RefusalsTest::twoImages;
     private static final Runs.State MADE_NEW = CarriedBack::new;
 
     private static void in(Runs.State state, String call, Runs.Call asked, int want) {
@@ -409,6 +420,10 @@ public final class RefusalsTest {
     private static void images() {
         Runs.about("promise 40: UNKNOWN");
         each("keep(v)", NO_IMAGE, (x, v) -> x.keep(v), U);
+        for (int v : NO_IMAGE) {
+            in(TWO_IMAGES, "keep(" + v + ")", x -> x.keep(v), U);
+            in(TWO_IMAGES, "goBack(" + v + ")", x -> x.goBack(v), U);
+        }
         Runs.about("promise 41: UNKNOWN, NOT: it was not kept");
         each("goBack(v)", NO_IMAGE, (x, v) -> x.goBack(v), U);
         refused("goBack(1)", x -> x.goBack(1), N);

@@ -391,6 +391,11 @@ public final class ReleasesEdgesTest {
             x.every(0, w[0]);
             Runs.due("soonest(0, " + w[1] + ") by " + w[0], x.soonest(0, w[1]), w[2]);
         }
+        // no NONE is told for a train that is due behind day 999
+        x.every(0, 99);
+        Runs.due("soonest(0, 991) by 99", x.soonest(0, 991), 1089);
+        x.every(0, 7);
+        Runs.due("soonest(0, 999) by 7", x.soonest(0, 999), 1001);
         Runs.due("soonest(0, 1000)", x.soonest(0, 1000), OUTSIDE);
         Runs.due("soonest(0, -1)", x.soonest(0, -1), OUTSIDE);
         Runs.due("soonest(1, 0)", x.soonest(1, 0), UNKNOWN);
