@@ -14,6 +14,7 @@ public final class TrunkEdgesTest {
 
     public static void main(String[] args) {
         newObject();
+        fiveHundredAndTwelveCalls();
         slotsHoldZeroAtFirst();
         oneToEightBytes();
         lowestBytesHighestFirst();
@@ -116,6 +117,23 @@ public final class TrunkEdgesTest {
             Runs.due("lets(" + l + ", 0, 0)", y.lets(l, 0, 0), 1);
             Runs.due("lets(" + l + ", 11, 999)", y.lets(l, 11, 999), 1);
         }
+    }
+
+    private static void fiveHundredAndTwelveCalls() {
+        Runs.about("what it is: An object is used for at most 512 calls after it has been made");
+        CarriedBack x = new CarriedBack();
+        x.feed(8, 0x6368616e67653b20L);
+        x.trunk();
+        x.cut(0);
+        x.keep(1);
+        for (int call = 5; call <= 508; call += 2) {
+            Runs.due("call " + call, x.pick(0, 0), 1);
+            Runs.due("call " + (call + 1), x.undo(0, 0), 0);
+        }
+        Runs.due("call 509", x.carry(0, 0), 1);
+        Runs.due("call 510", x.release(0, 999), 0);
+        Runs.due("call 511", x.goBack(1), 1);
+        Runs.due("call 512", x.ready(0, true), 1);
     }
 
     private static void slotsHoldZeroAtFirst() {
