@@ -1,4 +1,5 @@
 import java.io.IOException;
+import java.lang.reflect.Array;
 import java.lang.reflect.Constructor;
 import java.lang.reflect.Field;
 import java.lang.reflect.Method;
@@ -8,6 +9,7 @@ import java.nio.file.Files;
 import java.nio.file.Path;
 import java.util.ArrayList;
 import java.util.HashMap;
+import java.util.IdentityHashMap;
 import java.util.List;
 import java.util.Map;
 import java.util.Set;
@@ -102,7 +104,9 @@ public final class FaceTest {
             }
             if (Modifier.isStatic(m)) {
                 holds(f.getName() + " is final", Modifier.isFinal(m));
+                holds(f.getName() + " is a constant of int", f.getType() == int.class);
             } else {
+                holds(f.getName() + " is of a type that is allowed", allowed(f.getType()));
                 own++;
             }
         }
@@ -122,16 +126,29 @@ public final class FaceTest {
             for (Field f : one.getDeclaredFields()) {
                 own += Modifier.isStatic(f.getModifiers()) ? 0 : 1;
                 holds(one.getName() + "." + f.getName() + ": no static state", !Modifier.isStatic(f.getModifiers())
-                    || Modifier.isFinal(f.getModifiers()));
+                    || Modifier.isFinal(f.getModifiers()) && f.getType() == int.class);
+                holds(one.getName() + "." + f.getName() + " is of a type that is allowed", allowed(f.getType()));
             }
             holds(one.getName() + ": some twenty fields", own <= 20);
             for (Method method : one.getDeclaredMethods()) {
                 holds(method.getName() + " takes seven or fewer", method.getParameterCount() <= 7);
+                boolean fine = method.getReturnType() == void.class || allowed(method.getReturnType());
+                for (Class<?> type : method.getParameterTypes()) {
+                    fine &= allowed(type);
+                }
+                holds(method.getName() + " takes and answers what is allowed", fine);
                 for (String face : FACE) {
                     holds(method.getName() + " is not " + face, !face.startsWith(method.getName() + "("));
                 }
             }
         }
+    }
+
+    /** Of what LANGUAGE.md allows, what the class uses: numbers, rows of them, texts, and its own classes. */
+    private static boolean allowed(Class<?> type) {
+        List<Class<?>> plain = List.of(int.class, long.class, char.class, boolean.class, int[].class, boolean[].class,
+            String.class);
+        return plain.contains(type) || type.getDeclaringClass() == CarriedBack.class;
     }
 
     private static void source(Path file) throws IOException {
@@ -145,7 +162,8 @@ public final class FaceTest {
         String code = new String(bytes, StandardCharsets.ISO_8859_1).replaceAll("(?s)/\\*.*?\\*/", "")
             .replaceAll("//[^\n]*", "");
         String[] never = {"throw", "throws", "try", "catch", "finally", "synchronized", "assert", "import", "package",
-            "instanceof", "equals", "hashCode", "toString", "Object", "var", "Random", "currentTimeMillis", "nanoTime"};
+            "instanceof", "equals", "hashCode", "toString", "Object", "var", "Random", "currentTimeMillis", "nanoTime",
+            "protected", "double", "float", "Math.\\w+Exact"};
         for (String word : never) {
             holds("no " + word, !Pattern.compile("\\b" + word + "\\b").matcher(code).find());
         }
@@ -158,8 +176,93 @@ public final class FaceTest {
         used.removeAll(List.of("bitCount", "min", "max", "arraycopy"));
         holds("no library but what is known to be allowed: " + used, used.isEmpty());
         holds("no text is joined by +", !code.contains("\" +") && !code.contains("+ \""));
+        classesAndObjects(code);
+        loopsThatEnd(code);
+        callsThatAreKnown(code);
         longMethods(code);
         longestChain(code);
+    }
+
+    private static int times(String pattern, String code) {
+        int found = 0;
+        Matcher m = Pattern.compile(pattern).matcher(code);
+        while (m.find()) {
+            found++;
+        }
+        return found;
+    }
+
+    /** An object is made where a field is, and nowhere else, so that a run makes as many as there are fields. */
+    private static void classesAndObjects(String code) {
+        int inside = CarriedBack.class.getDeclaredClasses().length;
+        Runs.due("classes, none of them local", times("\\bclass\\b", code), inside + 1);
+        Runs.due("anonymous classes", times("\\bnew \\w+\\([^;]*\\) *\\{", code), 0);
+        Runs.due("static initialiser blocks", times("\\bstatic *\\{", code), 0);
+        Runs.due("casts to a class", times("\\([A-Z]\\w*(?:\\[\\])*\\) *[\\w(]", code), 0);
+        int fields = 0;
+        for (String line : code.split("\n")) {
+            if (line.contains("new ")) {
+                fields++;
+                boolean ofField = line.matches(" +(private )?final [\\w\\[\\]]+ \\w+ = new .*;");
+                holds("made with the object: " + line.trim(), ofField);
+            }
+        }
+        holds("objects were found: " + fields, fields > 30);
+        Runs.about("an object's room: the rows that are made with it");
+        int elements = elementsOf(new CarriedBack(), new IdentityHashMap<>());
+        holds("some 9,000 fields and elements: " + elements, elements > 1000 && elements <= 9000);
+        Runs.about("source");
+    }
+
+    private static int elementsOf(Object one, Map<Object, Object> seen) {
+        if (one == null || seen.put(one, one) != null) {
+            return 0;
+        }
+        if (one.getClass().isArray()) {
+            return Array.getLength(one);
+        }
+        int sum = 0;
+        for (Field f : one.getClass().getDeclaredFields()) {
+            if (!Modifier.isStatic(f.getModifiers())) {
+                sum++;
+                sum += f.getType().isPrimitive() ? 0 : elementsOf(valueOf(f, one), seen);
+            }
+        }
+        return sum;
+    }
+
+    private static Object valueOf(Field f, Object one) {
+        try {
+            f.setAccessible(true);
+            return f.get(one);
+        } catch (IllegalAccessException e) {
+            throw new IllegalStateException(f.getName(), e);
+        }
+    }
+
+    /** Each loop's head holds something against a bound. */
+    private static void loopsThatEnd(String code) {
+        Matcher loop = Pattern.compile("\\b(for|while) \\((.*?)\\) \\{").matcher(code);
+        int loops = 0;
+        while (loop.find()) {
+            loops++;
+            holds("a bound: " + loop.group(), Pattern.compile(" (<|<=|>|>=) ").matcher(loop.group(2)).find());
+        }
+        Runs.due("loops with a head of one line", loops, times("\\b(?:for|while)\\b", code));
+        Runs.due("do loops", times("\\bdo\\b", code), 0);
+    }
+
+    private static void callsThatAreKnown(String code) {
+        Set<String> known = new TreeSet<>(List.of("length", "charAt", "bitCount", "min", "max", "arraycopy"));
+        for (Class<?> one : CarriedBack.class.getDeclaredClasses()) {
+            for (Method m : one.getDeclaredMethods()) {
+                known.add(m.getName());
+            }
+        }
+        Matcher call = Pattern.compile("\\.(\\w+)\\(").matcher(code);
+        while (call.find()) {
+            holds("known: " + call.group(1), known.contains(call.group(1)));
+        }
     }
 
     /**

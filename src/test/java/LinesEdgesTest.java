@@ -29,8 +29,10 @@ public final class LinesEdgesTest {
         needsOfOtherValuesAlone();
         impossibleInIt();
         impossibleForOneInIt();
+        impossibleForOneThatWouldGoOn();
         impossibleForNone();
         impossibleTogether();
+        possibleTogether();
         carryingOneAndAll();
         apartInEitherOrder();
         faultsInASet();
@@ -391,6 +393,26 @@ public final class LinesEdgesTest {
         Runs.due("needs(0, 5)", y.needs(0, 5), 16);
     }
 
+    private static void impossibleForOneThatWouldGoOn() {
+        Runs.about("terms 2: IMPOSSIBLE, if such a CHANGE is in the LINE already: though it would go on once more");
+        // 4 needs 2, that one 1, which is in it, and which slot 0 is ready for again
+        CarriedBack x = Runs.of("change sets 0 1;change sets 0 2;change sets 1 1 reads 0;change sets 0 1;"
+            + "change reads 1;");
+        x.cut(2);
+        Runs.due("pick(0, 3)", x.pick(0, 3), 3);
+        impossible(x, 0, 2);
+        impossible(x, 0, 4);
+        Runs.about("terms 2: IMPOSSIBLE, if such a CHANGE is in the LINE already: though another one would do for it");
+        // 3 reads slots 0, 1: 2 is the last one that sets slot 0, and is in it; 1, for slot 1, sets slot 0 alike
+        CarriedBack y = Runs.of("change sets 0 1;change sets 0 2,1 5;change sets 0 2;change reads 0,1;");
+        y.cut(3);
+        Runs.due("undo(0, 1)", y.undo(0, 1), 2);
+        Runs.due("clash(0, 3)", y.clash(0, 3), 3);
+        impossible(y, 0, 3);
+        Runs.due("pick(0, 1)", y.pick(0, 1), 3);
+        Runs.due("needs(0, 3)", y.needs(0, 3), 0);
+    }
+
     private static void impossibleForNone() {
         Runs.about("terms 2: IMPOSSIBLE, if such a CHANGE is in the LINE already (or there is none)");
         CarriedBack x = Runs.of("change reads 0;change sets 1 1;change reads 0,1;change sets 0 1;");
@@ -427,6 +449,21 @@ public final class LinesEdgesTest {
         y.cut(1);
         Runs.due("needs(0, 3)", y.needs(0, 3), 0);
         impossible(y, 0, 4);
+    }
+
+    private static void possibleTogether() {
+        Runs.about("terms 2: NEEDS: the least SET, so that all of them, then it, go on CLEANLY: these, not each of them"
+            + " for itself");
+        // 3 needs 1 alone, which spoils slot 0 for it; 4 needs 3 and 2, and 2 sets slot 0 back ahead of 3
+        CarriedBack x = Runs.of("change sets 0 1;change sets 0 2,1 5;change sets 0 1,2 6;change sets 3 7 reads 0,1;"
+            + "change reads 2,3;fault 9 from 0 till 4;");
+        x.cut(1);
+        impossible(x, 0, 3);
+        Runs.due("needs(0, 4)", x.needs(0, 4), 14);
+        Runs.due("cost(0, 1)", x.cost(0, 1), 30);
+        Runs.due("lets(0, 4, 0)", x.lets(0, 4, 0), 1);
+        Runs.due("carry(0, 4)", x.carry(0, 4), 4);
+        Runs.due("line(0, 1)", x.line(0, 1), 31);
     }
 
     private static void carryingOneAndAll() {

@@ -493,6 +493,8 @@ public final class WaysEdgesTest {
                 for (int what = 0; what <= 1; what++) {
                     Runs.due("spans behind the last of " + signs, x.spans(0, 0, many, what), NONE);
                     Runs.due("spans, max, of " + signs, x.spans(0, 0, Integer.MAX_VALUE, what), NONE);
+                    Runs.due("spans, -2, of " + signs, x.spans(0, 0, -2, what), NONE);
+                    Runs.due("spans, min, of " + signs, x.spans(0, 0, Integer.MIN_VALUE, what), NONE);
                 }
                 Runs.due("spans(0, 0, -1, 2) of " + signs, x.spans(0, 0, -1, 2), OUTSIDE);
                 Runs.due("spans(0, 0, 0, -1) of " + signs, x.spans(0, 0, 0, -1), OUTSIDE);
