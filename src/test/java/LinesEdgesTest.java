@@ -604,6 +604,15 @@ public final class LinesEdgesTest {
         x.undo(0, 6);
         Runs.due("cost of 4: not any more", x.cost(0, 16), 32);
         Runs.due("cost of 0 and 4", x.cost(0, 17), 34);
+        // 3 reads slot 0, which 5 has set; all others would go on
+        CarriedBack y = Runs.of("change;change;change;change reads 0;change;change sets 0 1;fault 1 from 0 till 3;");
+        y.cut(1);
+        y.every(0, 1);
+        Runs.due("soonest(0, 0)", y.soonest(0, 0), 0);
+        y.pick(0, 5);
+        Runs.due("cost(0, 1): IMPOSSIBLE", y.cost(0, 1), NONE);
+        Runs.due("best(0, 24, 99, 2)", y.best(0, 24, 99, 2), 0);
+        Runs.due("soonest(0, 0)", y.soonest(0, 0), NONE);
     }
 
     private static void costTogether() {
